@@ -46,6 +46,8 @@ public final class VectorSolver {
     private static final int BINARY = 3;
     private static final int HEX = 4;
     private static final int SYMBOL = 5;
+    /** With a fault's kind more: what is wrong wherever it stands, once it is wanted. */
+    private static final int BAD = 16;
 
     /** The reserved words; the numbers below are their places in this row. */
     private static final String RESERVED = "declare-const define-fun assert Bool _ BitVec Array true false let extract zero_extend sign_extend not and or xor => ite = distinct bvnot bvneg bvand bvor bvxor bvadd bvmul bvsub bvudiv bvurem bvsdiv bvsrem bvshl bvlshr bvashr bvult bvule bvugt bvuge bvslt bvsle bvsgt bvsge concat select store ";
@@ -215,7 +217,7 @@ public final class VectorSolver {
         int sort = sortOfThing(thing);
         switch (what) {
             case 0:
-                return Sorts.kind(sort);
+                return sort == Sorts.BOOL ? 0 : Sorts.isArray(sort) ? 2 : 1;
             case 1:
                 return Sorts.width(sort);
             case 2:
@@ -304,25 +306,22 @@ public final class VectorSolver {
     private static final class Sorts {
         static final int BOOL = 0;
         private static final int INDEX_SHIFT = 7;
+        private static final int WIDTH_BITS = 127;
 
         static int array(int indexWidth, int width) {
             return (indexWidth << INDEX_SHIFT) + width;
         }
 
         static boolean isArray(int sort) {
-            return indexWidth(sort) > 0;
+            return sort > WIDTH_BITS;
         }
 
         static boolean isVector(int sort) {
-            return sort > BOOL && !isArray(sort);
-        }
-
-        static int kind(int sort) {
-            return sort == BOOL ? 0 : isArray(sort) ? 2 : 1;
+            return sort > BOOL && sort <= WIDTH_BITS;
         }
 
         static int width(int sort) {
-            return sort & (1 << INDEX_SHIFT) - 1;
+            return sort & WIDTH_BITS;
         }
 
         static int indexWidth(int sort) {
@@ -330,28 +329,22 @@ public final class VectorSolver {
         }
 
         static int cells(int sort) {
-            return 1 << indexWidth(sort);
+            return 1 << (sort >> INDEX_SHIFT);
         }
 
         static int size(int sort) {
-            return sort == BOOL ? 1 : width(sort) << indexWidth(sort);
-        }
-
-        static long mask(int sort) {
-            return Words.mask(size(sort));
+            return sort == BOOL ? 1 : (sort & WIDTH_BITS) << (sort >> INDEX_SHIFT);
         }
 
         /** How many bits of an array that is held as one number stand below a cell. */
         static int cellShift(int sort, long index) {
-            return (cells(sort) - 1 - (int) index) * width(sort);
+            return ((1 << (sort >> INDEX_SHIFT)) - 1 - (int) index) * (sort & WIDTH_BITS);
         }
 
-        static long cellMask(int sort) {
-            return Words.mask(size(sort) >> indexWidth(sort));
-        }
-
+        /** Of what is no array the whole. */
         static long cell(int sort, long whole, long index) {
-            return whole >>> cellShift(sort, index) & cellMask(sort);
+            long mask = sort == BOOL ? 1L : Words.mask(sort & WIDTH_BITS);
+            return (whole >>> cellShift(sort, index)) & mask;
         }
     }
 
@@ -364,7 +357,7 @@ public final class VectorSolver {
         /** The number with a sign that the lowest bits are. */
         static long signed(long a, int width) {
             int rest = 64 - width;
-            return a << rest >> rest;
+            return (a << rest) >> rest;
         }
 
         static boolean less(long a, long b) {
@@ -373,55 +366,41 @@ public final class VectorSolver {
 
         /** All bits from the lowest one up to the highest that is 1. */
         static long upToHighest(long a) {
-            long all = a | a >>> 1;
+            long all = a | (a >>> 1);
             all |= all >>> 2;
             all |= all >>> 4;
             all |= all >>> 8;
             all |= all >>> 16;
-            return all | all >>> 32;
-        }
-
-        static long highest(long a) {
-            long all = upToHighest(a);
-            return all ^ all >>> 1;
+            return all | (all >>> 32);
         }
 
         /** The bits below the lowest one that is 0. */
         static long lowestRun(long a) {
-            return (~a & a + 1L) - 1L;
+            return (~a & (a + 1L)) - 1L;
         }
 
         static int trailingZeros(int a) {
             return Integer.bitCount((a & -a) - 1);
         }
 
-        /** Of two arguments, not yet cut to the width. */
+        /** Of two arguments; what is above the width does not count. */
         static long two(int op, long a, long b, int width) {
             switch (op) {
-                case BVSUB:
-                    return a - b;
-                case BVUDIV:
-                    return quotient(a, b);
-                case BVUREM:
-                    return a - quotient(a, b) * b;
-                case BVSDIV:
-                    return signedQuotient(signed(a, width), signed(b, width));
-                case BVSREM:
-                    return signedRest(signed(a, width), signed(b, width));
-                case BVSHL:
-                    return less(b, width) ? a << (int) b : 0L;
-                case BVLSHR:
-                    return less(b, width) ? a >>> (int) b : 0L;
-                case BVASHR:
-                    return signed(a, width) >> signShift(b, width);
-                default:
-                    return 0L;
+                case BVSUB: return a - b;
+                case BVUDIV: return quotient(a, b);
+                case BVUREM: return a - quotient(a, b) * b;
+                case BVSDIV: return signedQuotient(signed(a, width), signed(b, width));
+                case BVSREM: return signedRest(signed(a, width), signed(b, width));
+                case BVSHL: return less(b, width) ? a << (int) b : 0L;
+                case BVLSHR: return less(b, width) ? a >>> (int) b : 0L;
+                case BVASHR: return signed(a, width) >> signShift(b, width);
+                default: return 0L;
             }
         }
 
-        /** From the width on a shift that brings in the highest bit has no other effect. */
+        /** Where the highest bit comes in, no shift does more than that by the width less 1. */
         static int signShift(long by, int width) {
-            return less(by, width) ? (int) by : width - 1;
+            return by >= 0L && by < width ? (int) by : width - 1;
         }
 
         private static long quotient(long a, long b) {
@@ -429,11 +408,12 @@ public final class VectorSolver {
                 return -1L;
             }
             if (b < 0L) {
-                return less(a, b) ? 0L : 1L;
+                return a < 0L && a >= b ? 1L : 0L;
             }
-            // Java divides with signs: half of the first has none, what that loses is put right behind.
-            long nearly = (a >>> 1) / b << 1;
-            return less(a - nearly * b, b) ? nearly : nearly + 1L;
+            // Java divides with signs; a half has none, and what is lost by it is 1 at most.
+            long nearly = ((a >>> 1) / b) << 1;
+            long rest = a - nearly * b;
+            return rest >= 0L && rest < b ? nearly : nearly + 1L;
         }
 
         private static long signedQuotient(long a, long b) {
@@ -447,26 +427,19 @@ public final class VectorSolver {
             return b == 0L ? a : a % b;
         }
 
-        static boolean compare(int op, long a, long b, int width) {
-            long flip = flipped(op, width);
-            switch (op) {
-                case BVULT:
-                case BVSLT:
-                    return less(a ^ flip, b ^ flip);
-                case BVULE:
-                case BVSLE:
-                    return !less(b ^ flip, a ^ flip);
-                case BVUGT:
-                case BVSGT:
-                    return less(b ^ flip, a ^ flip);
-                default:
-                    return !less(a ^ flip, b ^ flip);
-            }
+        /** With the highest bit turned, numbers with signs are in the order of those without. */
+        static long turned(int op, int width) {
+            return op >= BVSLT ? 1L << (width - 1) : 0L;
         }
 
-        /** Numbers with signs are in the order of those without, once the highest bit is turned. */
-        static long flipped(int op, int width) {
-            return op >= BVSLT ? 1L << width - 1 : 0L;
+        static boolean compare(int op, long a, long b, int width) {
+            long turn = turned(op, width);
+            switch (op) {
+                case BVULT: case BVSLT: return less(a ^ turn, b ^ turn);
+                case BVULE: case BVSLE: return !less(b ^ turn, a ^ turn);
+                case BVUGT: case BVSGT: return less(b ^ turn, a ^ turn);
+                default: return !less(a ^ turn, b ^ turn);
+            }
         }
     }
 
@@ -480,22 +453,21 @@ public final class VectorSolver {
         /** Of an extract its lowest bit, of a thing its number. */
         final int[] low = new int[MOST_TERMS];
         final long[] bits = new long[MOST_TERMS];
+        /** As many ones as a value of the term has bits; of no use for an array of more than 64. */
+        final long[] full = new long[MOST_TERMS];
         /** The least number among a term and all that it is made of, things aside. */
         final int[] lowest = new int[MOST_TERMS];
         int made;
         int weight;
 
-        boolean isFull() {
-            return made >= MOST_TERMS;
-        }
-
-        /** Asked for only where it is not full. */
-        int add(int itsOp, int itsSort) {
+        /** Asked for only where there is room. */
+        int add(int itsOp, int itsSort, long itsBits) {
             int t = made;
             op[t] = itsOp;
             sort[t] = itsSort;
             low[t] = 0;
-            bits[t] = 0L;
+            bits[t] = itsBits;
+            full[t] = Words.mask(Sorts.size(itsSort));
             lowest[t] = t;
             first[t + 1] = first[t];
             made = t + 1;
@@ -505,19 +477,13 @@ public final class VectorSolver {
         /** For the last term alone. */
         void addArgument(int t, int argument) {
             int end = first[t + 1];
-            args[end] = argument;
-            first[t + 1] = end + 1;
+            if (end < args.length) {
+                args[end] = argument;
+                first[t + 1] = end + 1;
+            }
             if (op[argument] != THING && lowest[argument] < lowest[t]) {
                 lowest[t] = lowest[argument];
             }
-        }
-
-        int argument(int t, int which) {
-            return args[first[t] + which];
-        }
-
-        int many(int t) {
-            return first[t + 1] - first[t];
         }
 
         /** Marks a term and all that it is made of, things aside. */
@@ -606,18 +572,19 @@ public final class VectorSolver {
             things++;
         }
 
-        int findName(Text from, int begin, int end) {
+        /** The name that the word is that was read last. */
+        int findName(Text from) {
             for (int n = 0; n < names; n++) {
                 int length = nameFirst[n + 1] - nameFirst[n];
-                if (length == end - begin && isName(n, from, begin)) {
+                if (length == from.end - from.begin && isName(n, from)) {
                     return n;
                 }
             }
             return NONE;
         }
 
-        private boolean isName(int n, Text from, int begin) {
-            int at = begin;
+        private boolean isName(int n, Text from) {
+            int at = from.begin;
             for (int i = nameFirst[n]; i < nameFirst[n + 1]; i++) {
                 if (letters[i] != from.bytes[at]) {
                     return false;
@@ -628,84 +595,56 @@ public final class VectorSolver {
         }
     }
 
-    /** The text, as a row of words and brackets of which one at a time is looked at. */
+    /**
+     * The text. It is split into words and brackets first, up to the first that is BAD, and the reader
+     * goes through these one by one: it wants none behind a bad one, as that fits nowhere.
+     */
     private static final class Text {
+        private static final String OTHER_SIGNS = "~!@$%^&*_-+=<>.?/#";
+        private static final int END_SHIFT = 20;
+        private static final int KIND_SHIFT = 40;
+        private static final int RESERVED_SHIFT = 48;
+        private static final int PLACE_BITS = 0xFFFFF;
+        private static final int BYTE_BITS = 0xFF;
+
         final byte[] bytes = new byte[TEXT_BYTES];
         int length;
         int faultKind;
         int faultPlace = NONE;
-        /** Of the word or bracket that was read last: what it is, and where. */
+        /** One number for each word and bracket, and for the text's end or what is bad. */
+        private final long[] pieces = new long[TEXT_BYTES + 1];
+        private int pieceCount;
+        private int nextPiece;
+        private int open;
+        /** Of the word or bracket that was read last: what it is and where, and its reserved number. */
         int kind;
         int begin;
         int end;
-        /** Its number among the reserved words. */
         int reserved;
-        private int open;
 
         /** Asked for only where there is room. */
         void append(int four) {
-            for (int shift = 24; shift >= 0; shift -= 8) {
+            for (int shift = 24; shift >= 0 && length < TEXT_BYTES; shift -= 8) {
                 bytes[length] = (byte) (four >> shift);
                 length++;
             }
         }
 
-        void start() {
+        void split() {
+            pieceCount = 0;
+            open = 0;
+            end = 0;
+            kind = OPEN;
+            while (pieceCount <= length && kind < BAD) {
+                skipBlanks();
+                begin = end;
+                reserved = NONE;
+                kind = cutPiece();
+                keepPiece();
+            }
+            nextPiece = 0;
             faultKind = 0;
             faultPlace = NONE;
-            end = 0;
-            open = 0;
-        }
-
-        int fail(int itsKind, int place) throws IllegalStateException {
-            faultKind = itsKind;
-            faultPlace = place;
-            throw new IllegalStateException("the text has a fault");
-        }
-
-        /** Whether nothing but blanks is left. */
-        boolean isOver() {
-            skipBlanks();
-            return end >= length;
-        }
-
-        void next() throws IllegalStateException {
-            if (isOver()) {
-                fail(FAULT_END, length);
-                return;
-            }
-            begin = end;
-            reserved = NONE;
-            int sign = bytes[end];
-            if (sign == '(' || sign == ')') {
-                bracket(sign);
-            } else if (isWordSign(sign)) {
-                word();
-            } else {
-                fail(FAULT_SIGN, begin);
-            }
-        }
-
-        private void bracket(int sign) throws IllegalStateException {
-            if (sign == '(' && open == MOST_OPEN) {
-                fail(FAULT_DEEP, begin);
-            }
-            kind = sign == '(' ? OPEN : CLOSE;
-            open += sign == '(' ? 1 : -1;
-            end++;
-        }
-
-        private void word() throws IllegalStateException {
-            while (end < length && isWordSign(bytes[end])) {
-                end++;
-            }
-            kind = kindOfWord();
-            if (kind == NONE) {
-                fail(FAULT_FORM, begin);
-            }
-            if (kind == SYMBOL) {
-                reserved = findReserved();
-            }
         }
 
         private void skipBlanks() {
@@ -723,6 +662,33 @@ public final class VectorSolver {
             }
         }
 
+        private int cutPiece() {
+            if (end >= length) {
+                return BAD + FAULT_END;
+            }
+            int sign = bytes[end];
+            if (sign == '(') {
+                open++;
+                end++;
+                return open > MOST_OPEN ? BAD + FAULT_DEEP : OPEN;
+            }
+            if (sign == ')') {
+                open--;
+                end++;
+                return CLOSE;
+            }
+            while (end < length && isWordSign(bytes[end])) {
+                end++;
+            }
+            return end == begin ? BAD + FAULT_SIGN : kindOfWord();
+        }
+
+        private void keepPiece() {
+            long piece = begin | (long) end << END_SHIFT | (long) kind << KIND_SHIFT;
+            pieces[pieceCount] = piece | (long) (reserved + 1) << RESERVED_SHIFT;
+            pieceCount++;
+        }
+
         private static boolean isDigit(int sign) {
             return sign >= '0' && sign <= '9';
         }
@@ -731,27 +697,28 @@ public final class VectorSolver {
             if (isDigit(sign) || sign >= 'a' && sign <= 'z' || sign >= 'A' && sign <= 'Z') {
                 return true;
             }
-            return sign > 0 && "~!@$%^&*_-+=<>.?/#".indexOf((char) sign) >= 0;
+            return sign > 0 && OTHER_SIGNS.indexOf((char) sign) >= 0;
         }
 
         private int kindOfWord() {
             int sign = bytes[begin];
             if (isDigit(sign)) {
-                boolean single = end - begin == 1;
-                return (single || sign != '0') && hasDigits(begin, 10) ? NUMERAL : NONE;
+                boolean plain = sign != '0' || end - begin == 1;
+                return plain && hasDigits(begin, 10) ? NUMERAL : BAD + FAULT_FORM;
             }
             if (sign != '#') {
+                reserved = findReserved();
                 return SYMBOL;
             }
             int digits = end - begin - 2;
-            if (digits < 1) {
-                return NONE;
+            int mark = digits < 1 ? 0 : bytes[begin + 1];
+            if (mark == 'b' && digits <= MOST_WIDTH && hasDigits(begin + 2, 2)) {
+                return BINARY;
             }
-            int base = bytes[begin + 1];
-            if (base == 'b') {
-                return digits <= MOST_WIDTH && hasDigits(begin + 2, 2) ? BINARY : NONE;
+            if (mark == 'x' && digits <= MOST_WIDTH / 4 && hasDigits(begin + 2, 16)) {
+                return HEX;
             }
-            return base == 'x' && digits <= MOST_WIDTH / 4 && hasDigits(begin + 2, 16) ? HEX : NONE;
+            return BAD + FAULT_FORM;
         }
 
         private boolean hasDigits(int from, int base) {
@@ -774,11 +741,65 @@ public final class VectorSolver {
             return sign >= 'A' && sign <= 'F' ? sign - 'A' + 10 : NONE;
         }
 
+        private int findReserved() {
+            int number = 0;
+            int from = 0;
+            for (int i = 0; i < RESERVED.length(); i++) {
+                if (RESERVED.charAt(i) == ' ') {
+                    if (i - from == end - begin && isReserved(from)) {
+                        return number;
+                    }
+                    number++;
+                    from = i + 1;
+                }
+            }
+            return NONE;
+        }
+
+        /** Asked only where a reserved word of the same length begins. */
+        private boolean isReserved(int from) {
+            for (int i = begin; i < end; i++) {
+                if (bytes[i] != RESERVED.charAt(from + i - begin)) {
+                    return false;
+                }
+            }
+            return true;
+        }
+
+        /** Whether nothing but blanks is left. */
+        boolean isOver() {
+            return nextPiece < pieceCount && (pieces[nextPiece] >> KIND_SHIFT & BYTE_BITS) == BAD + FAULT_END;
+        }
+
+        void next() {
+            long piece = pieces[nextPiece];
+            begin = (int) piece & PLACE_BITS;
+            end = (int) (piece >> END_SHIFT) & PLACE_BITS;
+            kind = (int) (piece >> KIND_SHIFT) & BYTE_BITS;
+            reserved = ((int) (piece >> RESERVED_SHIFT) & BYTE_BITS) - 1;
+            if (nextPiece < pieceCount - 1) {
+                nextPiece++;
+            }
+        }
+
+        int fail(int itsKind, int place) throws IllegalStateException {
+            faultKind = itsKind;
+            faultPlace = place;
+            throw new IllegalStateException("the text has a fault");
+        }
+
+        /** What was read last does not fit there; if it is bad, that comes before all else. */
+        int failHere() throws IllegalStateException {
+            faultKind = kind >= BAD ? kind - BAD : FAULT_OTHER;
+            faultPlace = begin;
+            throw new IllegalStateException("the text has a fault");
+        }
+
         /** What a numeral is, or more than an int can be. */
         long numeral() {
             long sum = 0L;
             for (int i = begin; i < end && sum <= Integer.MAX_VALUE; i++) {
-                sum = 10L * sum + digit(bytes[i]);
+                sum = 10L * sum + bytes[i] - '0';
             }
             return sum;
         }
@@ -797,36 +818,13 @@ public final class VectorSolver {
             return (end - begin - 2) * (kind == BINARY ? 1 : 4);
         }
 
-        private int findReserved() {
-            int number = 0;
-            int from = 0;
-            for (int i = 0; i < RESERVED.length(); i++) {
-                if (RESERVED.charAt(i) == ' ') {
-                    if (i - from == end - begin && isReserved(from)) {
-                        return number;
-                    }
-                    number++;
-                    from = i + 1;
-                }
-            }
-            return NONE;
-        }
-
-        private boolean isReserved(int from) {
-            for (int i = begin; i < end; i++) {
-                if (bytes[i] != RESERVED.charAt(from + i - begin)) {
-                    return false;
-                }
-            }
-            return true;
-        }
-
-        boolean isSame(int from, int to, int otherFrom, int otherTo) {
-            if (to - from != otherTo - otherFrom) {
+        /** Whether the word that was read last stands in another place, too. */
+        boolean isSame(int otherBegin, int otherEnd) {
+            if (end - begin != otherEnd - otherBegin) {
                 return false;
             }
-            for (int i = from; i < to; i++) {
-                if (bytes[i] != bytes[otherFrom + i - from]) {
+            for (int i = begin; i < end; i++) {
+                if (bytes[i] != bytes[otherBegin + i - begin]) {
                     return false;
                 }
             }
@@ -848,7 +846,7 @@ public final class VectorSolver {
         /** Not while the bindings of its own let are being read. */
         private final boolean[] boundShown = new boolean[MOST_BOUND];
         private int bound;
-        /** The numerals of the last ( _ .. ) that was read. */
+        /** The numerals of the ( _ .. ) before the application that is looked at. */
         private int high;
         private int low;
 
@@ -859,7 +857,7 @@ public final class VectorSolver {
         }
 
         int wholeText() {
-            text.start();
+            text.split();
             book.keep();
             top = 0;
             bound = 0;
@@ -876,72 +874,67 @@ public final class VectorSolver {
         private int commands() throws IllegalStateException {
             int many = 0;
             while (many < TEXT_BYTES && !text.isOver()) {
-                command();
+                expect(OPEN);
+                text.next();
+                switch (text.reserved) {
+                    case DECLARE_CONST: declare(); break;
+                    case DEFINE_FUN: define(); break;
+                    case ASSERT: affirm(); break;
+                    default: text.failHere();
+                }
+                expect(CLOSE);
                 many++;
             }
             return many;
         }
 
-        private void command() throws IllegalStateException {
-            expect(OPEN);
-            text.next();
-            switch (text.reserved) {
-                case DECLARE_CONST:
-                    declare();
-                    break;
-                case DEFINE_FUN:
-                    define();
-                    break;
-                case ASSERT:
-                    affirm();
-                    break;
-                default:
-                    text.fail(FAULT_OTHER, text.begin);
-            }
-            expect(CLOSE);
-        }
-
         private void expect(int kind) throws IllegalStateException {
             text.next();
             if (text.kind != kind) {
-                text.fail(FAULT_OTHER, text.begin);
+                text.failHere();
             }
         }
 
         private void expectReserved(int reserved) throws IllegalStateException {
             text.next();
             if (text.reserved != reserved) {
-                text.fail(FAULT_OTHER, text.begin);
+                text.failHere();
             }
         }
 
         private void declare() throws IllegalStateException {
-            newName();
+            expectNewName();
             int begin = text.begin;
             int end = text.end;
             int sort = sort();
-            int term = make(begin, THING, sort, Sorts.size(sort));
+            int term = make(begin, THING, sort, Sorts.size(sort), 0L);
             book.addThing(term);
             book.addName(text, begin, end, term);
         }
 
-        /** The name is added when no term can use it any more: it must not stand in its own. */
         private void define() throws IllegalStateException {
-            newName();
+            expectNewName();
             int begin = text.begin;
             int end = text.end;
             expect(OPEN);
             expect(CLOSE);
             int sort = sort();
             text.next();
-            int term = termOfSort(sort);
+            int termBegin = text.begin;
+            int term = term();
+            if (terms.sort[term] != sort) {
+                text.fail(FAULT_SORTS, termBegin);
+            }
             book.addName(text, begin, end, term);
         }
 
         private void affirm() throws IllegalStateException {
             text.next();
             int begin = text.begin;
-            int term = termOfSort(Sorts.BOOL);
+            int term = term();
+            if (terms.sort[term] != Sorts.BOOL) {
+                text.fail(FAULT_SORTS, begin);
+            }
             if (book.assertions >= MOST_ASSERTIONS) {
                 text.fail(FAULT_FULL, begin);
                 return;
@@ -950,9 +943,9 @@ public final class VectorSolver {
             book.assertions++;
         }
 
-        private void newName() throws IllegalStateException {
+        private void expectNewName() throws IllegalStateException {
             expect(SYMBOL);
-            if (text.reserved != NONE || book.findName(text, text.begin, text.end) != NONE) {
+            if (text.reserved != NONE || book.findName(text) != NONE) {
                 text.fail(FAULT_TAKEN, text.begin);
             }
             if (!book.hasRoomForName(text.end - text.begin)) {
@@ -966,28 +959,27 @@ public final class VectorSolver {
                 return Sorts.BOOL;
             }
             if (text.kind != OPEN) {
-                return text.fail(FAULT_OTHER, text.begin);
+                return text.failHere();
             }
             text.next();
             if (text.reserved == UNDERSCORE) {
-                return restOfVector(MOST_WIDTH);
+                return width(MOST_WIDTH);
             }
             if (text.reserved != ARRAY) {
-                return text.fail(FAULT_OTHER, text.begin);
+                return text.failHere();
             }
-            int indexWidth = vector(MOST_INDEX_WIDTH);
-            int width = vector(MOST_WIDTH);
+            expect(OPEN);
+            expectReserved(UNDERSCORE);
+            int indexWidth = width(MOST_INDEX_WIDTH);
+            expect(OPEN);
+            expectReserved(UNDERSCORE);
+            int width = width(MOST_WIDTH);
             expect(CLOSE);
             return Sorts.array(indexWidth, width);
         }
 
-        private int vector(int most) throws IllegalStateException {
-            expect(OPEN);
-            expectReserved(UNDERSCORE);
-            return restOfVector(most);
-        }
-
-        private int restOfVector(int most) throws IllegalStateException {
+        /** What stands behind the _ of a vector's sort, with the end bracket. */
+        private int width(int most) throws IllegalStateException {
             expectReserved(BIT_VEC);
             int width = numeral();
             if (width < 1 || width > most) {
@@ -998,7 +990,10 @@ public final class VectorSolver {
         }
 
         private int numeral() throws IllegalStateException {
-            expect(NUMERAL);
+            text.next();
+            if (text.kind != NUMERAL) {
+                return text.failHere();
+            }
             long number = text.numeral();
             if (number > Integer.MAX_VALUE) {
                 return text.fail(FAULT_NUMBER, text.begin);
@@ -1006,91 +1001,89 @@ public final class VectorSolver {
             return (int) number;
         }
 
-        private int termOfSort(int sort) throws IllegalStateException {
-            int begin = text.begin;
-            int term = term();
-            if (terms.sort[term] != sort) {
-                return text.fail(FAULT_SORTS, begin);
-            }
-            return term;
-        }
-
-        /** The term that begins with what was read last; as deep as brackets may be open. */
+        /** The term that begins with what was read last. It goes no deeper than brackets may be open. */
         private int term() throws IllegalStateException {
             switch (text.kind) {
                 case SYMBOL:
+                    if (text.reserved == TRUE || text.reserved == FALSE) {
+                        return make(text.begin, CONSTANT, Sorts.BOOL, 1, text.reserved == TRUE ? 1L : 0L);
+                    }
                     return symbolTerm();
                 case BINARY:
                 case HEX:
-                    return constantTerm(text.constantWidth(), text.constant());
+                    int width = text.constantWidth();
+                    return make(text.begin, CONSTANT, width, width, text.constant());
                 case OPEN:
                     return bracketTerm();
                 default:
-                    return text.fail(FAULT_OTHER, text.begin);
+                    return text.failHere();
             }
         }
 
         private int symbolTerm() throws IllegalStateException {
-            if (text.reserved == TRUE || text.reserved == FALSE) {
-                return constantTerm(Sorts.BOOL, text.reserved == TRUE ? 1L : 0L);
-            }
             for (int i = bound - 1; i >= 0; i--) {
-                if (boundShown[i] && isBound(i)) {
+                if (boundShown[i] && text.isSame(boundBegin[i], boundEnd[i])) {
                     return boundTerm[i];
                 }
             }
-            int name = book.findName(text, text.begin, text.end);
+            int name = book.findName(text);
             return name == NONE ? text.fail(FAULT_NAME, text.begin) : book.nameTerm[name];
-        }
-
-        private boolean isBound(int which) {
-            return text.isSame(text.begin, text.end, boundBegin[which], boundEnd[which]);
-        }
-
-        private int constantTerm(int sort, long bits) throws IllegalStateException {
-            int term = make(text.begin, CONSTANT, sort, Sorts.size(sort));
-            terms.bits[term] = bits;
-            return term;
         }
 
         private int bracketTerm() throws IllegalStateException {
             int begin = text.begin;
-            int op = operator();
-            if (op == LET) {
+            text.next();
+            if (text.reserved == LET) {
                 return let();
             }
+            int op = text.kind == OPEN ? indexedOperator() : plainOperator();
             int itsHigh = high;
             int itsLow = low;
             int base = top;
+            readArguments(begin);
+            int many = top - base;
+            if (!fitsMany(op, many)) {
+                return text.fail(FAULT_MANY, begin);
+            }
+            high = itsHigh;
+            low = itsLow;
+            int sort = sortOfResult(op, base);
+            if (sort == NONE) {
+                return text.fail(FAULT_SORTS, begin);
+            }
+            int weight = weigh(op, Sorts.size(sort), Sorts.size(terms.sort[stack[base]]), many);
+            int term = make(begin, op, sort, weight, 0L);
+            giveArguments(term, base);
+            return term;
+        }
+
+        /** Up to the end bracket of an application that begins somewhere. */
+        private void readArguments(int begin) throws IllegalStateException {
             text.next();
             for (int many = 0; many <= MOST_ARGUMENTS && text.kind != CLOSE; many++) {
                 int argument = term();
-                if (many == MOST_ARGUMENTS) {
-                    return text.fail(FAULT_FULL, begin);
+                if (many == MOST_ARGUMENTS || top >= stack.length) {
+                    text.fail(FAULT_FULL, begin);
+                    return;
                 }
                 stack[top] = argument;
                 top++;
                 text.next();
             }
-            if (!fitsMany(op, top - base)) {
-                return text.fail(FAULT_MANY, begin);
-            }
-            high = itsHigh;
-            low = itsLow;
-            int term = apply(begin, op, base);
-            top = base;
-            return term;
         }
 
-        private int operator() throws IllegalStateException {
-            text.next();
-            if (text.kind == OPEN) {
-                return indexedOperator();
+        private void giveArguments(int term, int base) {
+            if (terms.op[term] == EXTRACT) {
+                terms.low[term] = low;
             }
-            if (text.reserved < NOT && text.reserved != LET) {
-                return text.fail(FAULT_OTHER, text.begin);
+            for (int i = base; i < top; i++) {
+                terms.addArgument(term, stack[i]);
             }
-            return text.reserved;
+            top = base;
+        }
+
+        private int plainOperator() throws IllegalStateException {
+            return text.reserved < NOT ? text.failHere() : text.reserved;
         }
 
         private int indexedOperator() throws IllegalStateException {
@@ -1098,7 +1091,7 @@ public final class VectorSolver {
             text.next();
             int op = text.reserved;
             if (op < EXTRACT || op > SIGN_EXTEND) {
-                return text.fail(FAULT_OTHER, text.begin);
+                return text.failHere();
             }
             high = numeral();
             low = op == EXTRACT ? numeral() : 0;
@@ -1111,99 +1104,61 @@ public final class VectorSolver {
 
         private static boolean fitsMany(int op, int many) {
             switch (op) {
-                case NOT:
-                case BVNOT:
-                case BVNEG:
-                case EXTRACT:
-                case ZERO_EXTEND:
-                case SIGN_EXTEND:
+                case NOT: case BVNOT: case BVNEG:
+                case EXTRACT: case ZERO_EXTEND: case SIGN_EXTEND:
                     return many == 1;
-                case ITE:
-                case STORE:
+                case ITE: case STORE:
                     return many == 3;
-                case AND:
-                case OR:
-                case XOR:
-                case IMPLIES:
-                case EQUAL:
-                case DISTINCT:
-                case BVAND:
-                case BVOR:
-                case BVXOR:
-                case BVADD:
-                case BVMUL:
-                case CONCAT:
+                case AND: case OR: case XOR: case IMPLIES: case EQUAL: case DISTINCT:
+                case BVAND: case BVOR: case BVXOR: case BVADD: case BVMUL: case CONCAT:
                     return many >= 2;
                 default:
                     return many == 2;
             }
         }
 
-        private int apply(int begin, int op, int base) throws IllegalStateException {
-            int sort = sortOfResult(op, base);
-            if (sort == NONE) {
-                return text.fail(FAULT_SORTS, begin);
-            }
-            int weight = weigh(op, sort, sortAt(base), top - base);
-            int term = make(begin, op, sort, weight);
-            terms.low[term] = low;
-            for (int i = base; i < top; i++) {
-                terms.addArgument(term, stack[i]);
-            }
-            return term;
-        }
-
-        private int make(int begin, int op, int sort, int weight) throws IllegalStateException {
-            if (terms.isFull()) {
+        /** The bits are those of a constant. */
+        private int make(int begin, int op, int sort, int weight, long bits) throws IllegalStateException {
+            if (terms.made >= MOST_TERMS) {
                 return text.fail(FAULT_FULL, begin);
             }
             if (weight > MOST_WEIGHT - terms.weight) {
                 return text.fail(FAULT_HEAVY, begin);
             }
             terms.weight += weight;
-            return terms.add(op, sort);
+            return terms.add(op, sort, bits);
         }
 
-        private int sortAt(int place) {
-            return terms.sort[stack[place]];
-        }
-
-        /** Of as many arguments as fit; NONE if their sorts don't, or it were too wide. */
+        /** Of as many arguments as fit; NONE if their sorts don't, or if it were too wide. */
         private int sortOfResult(int op, int base) {
-            int first = sortAt(base);
+            int first = terms.sort[stack[base]];
+            boolean vector = Sorts.isVector(first);
             switch (op) {
-                case NOT:
-                case AND:
-                case OR:
-                case XOR:
-                case IMPLIES:
+                case NOT: case AND: case OR: case XOR: case IMPLIES:
                     return first == Sorts.BOOL && isOneSort(base) ? Sorts.BOOL : NONE;
-                case EQUAL:
-                case DISTINCT:
+                case EQUAL: case DISTINCT:
                     return isOneSort(base) ? Sorts.BOOL : NONE;
                 case ITE:
-                    return first == Sorts.BOOL && isOneSort(base + 1) ? sortAt(base + 1) : NONE;
+                    return first == Sorts.BOOL && isOneSort(base + 1) ? terms.sort[stack[base + 1]] : NONE;
                 case CONCAT:
                     return sortOfConcat(base);
-                case SELECT:
-                case STORE:
+                case SELECT: case STORE:
                     return sortOfArrayUse(op, base);
                 case EXTRACT:
-                    return Sorts.isVector(first) && high < first ? high - low + 1 : NONE;
-                case ZERO_EXTEND:
-                case SIGN_EXTEND:
-                    return Sorts.isVector(first) && high <= MOST_WIDTH - first ? first + high : NONE;
+                    return vector && high < first ? high - low + 1 : NONE;
+                case ZERO_EXTEND: case SIGN_EXTEND:
+                    return vector && high <= MOST_WIDTH - first ? first + high : NONE;
+                case BVULT: case BVULE: case BVUGT: case BVUGE:
+                case BVSLT: case BVSLE: case BVSGT: case BVSGE:
+                    return vector && isOneSort(base) ? Sorts.BOOL : NONE;
                 default:
-                    if (!Sorts.isVector(first) || !isOneSort(base)) {
-                        return NONE;
-                    }
-                    return op >= BVULT ? Sorts.BOOL : first;
+                    return vector && isOneSort(base) ? first : NONE;
             }
         }
 
         private boolean isOneSort(int from) {
             for (int i = from + 1; i < top; i++) {
-                if (sortAt(i) != sortAt(from)) {
+                if (terms.sort[stack[i]] != terms.sort[stack[from]]) {
                     return false;
                 }
             }
@@ -1213,70 +1168,43 @@ public final class VectorSolver {
         private int sortOfConcat(int base) {
             int width = 0;
             for (int i = base; i < top; i++) {
-                if (!Sorts.isVector(sortAt(i))) {
+                int sort = terms.sort[stack[i]];
+                if (!Sorts.isVector(sort)) {
                     return NONE;
                 }
-                width += sortAt(i);
+                width += sort;
             }
             return width <= MOST_WIDTH ? width : NONE;
         }
 
         private int sortOfArrayUse(int op, int base) {
-            int array = sortAt(base);
-            if (!Sorts.isArray(array) || sortAt(base + 1) != Sorts.indexWidth(array)) {
+            int array = terms.sort[stack[base]];
+            if (!Sorts.isArray(array) || terms.sort[stack[base + 1]] != Sorts.indexWidth(array)) {
                 return NONE;
             }
             if (op == SELECT) {
                 return Sorts.width(array);
             }
-            return sortAt(base + 2) == Sorts.width(array) ? array : NONE;
+            return terms.sort[stack[base + 2]] == Sorts.width(array) ? array : NONE;
         }
 
-        /** By its own sort, that of its first argument, and how many it has. */
-        private static int weigh(int op, int sort, int firstSort, int many) {
-            int s = Sorts.size(firstSort);
+        /** By the size of its own sort, that of its first argument's, and how many it has. */
+        private static int weigh(int op, int own, int s, int many) {
             switch (op) {
-                case NOT:
-                case BVNOT:
-                    return s;
-                case AND:
-                case OR:
-                case XOR:
-                case IMPLIES:
-                case BVAND:
-                case BVOR:
-                case BVXOR:
-                    return 4 * s * (many - 1);
-                case ITE:
-                    return 4 * Sorts.size(sort);
-                case EQUAL:
-                    return 5 * s * (many - 1);
-                case DISTINCT:
-                    return 5 * s * many * (many - 1);
-                case BVADD:
-                    return 10 * s * (many - 1);
-                case BVMUL:
-                    return 14 * s * s * (many - 1);
-                case BVUDIV:
-                case BVUREM:
-                    return 16 * s * s + 32 * s;
-                case BVSDIV:
-                case BVSREM:
-                    return 16 * s * s + 80 * s;
-                case BVSHL:
-                case BVLSHR:
-                case BVASHR:
-                    return 30 * s;
-                case SELECT:
-                case STORE:
-                    return 8 * s;
-                case CONCAT:
-                case EXTRACT:
-                case ZERO_EXTEND:
-                case SIGN_EXTEND:
-                    return Sorts.size(sort);
-                default:
-                    return 10 * s;
+                case NOT: case BVNOT: return s;
+                case AND: case OR: case XOR: case IMPLIES:
+                case BVAND: case BVOR: case BVXOR: return 4 * s * (many - 1);
+                case ITE: return 4 * own;
+                case EQUAL: return 5 * s * (many - 1);
+                case DISTINCT: return 5 * s * many * (many - 1);
+                case BVADD: return 10 * s * (many - 1);
+                case BVMUL: return 14 * s * s * (many - 1);
+                case BVUDIV: case BVUREM: return 16 * s * s + 32 * s;
+                case BVSDIV: case BVSREM: return 16 * s * s + 80 * s;
+                case BVSHL: case BVLSHR: case BVASHR: return 30 * s;
+                case SELECT: case STORE: return 8 * s;
+                case CONCAT: case EXTRACT: case ZERO_EXTEND: case SIGN_EXTEND: return own;
+                default: return 10 * s;
             }
         }
 
@@ -1289,7 +1217,7 @@ public final class VectorSolver {
                 text.next();
             }
             if (text.kind != CLOSE) {
-                return text.fail(FAULT_OTHER, text.begin);
+                return text.failHere();
             }
             for (int i = base; i < bound; i++) {
                 boundShown[i] = true;
@@ -1322,7 +1250,7 @@ public final class VectorSolver {
 
         private boolean isBoundSince(int base) {
             for (int i = base; i < bound; i++) {
-                if (isBound(i)) {
+                if (text.isSame(boundBegin[i], boundEnd[i])) {
                     return true;
                 }
             }
@@ -1341,7 +1269,7 @@ public final class VectorSolver {
             terms = itsBook.terms;
         }
 
-        /** All terms up to one; of a size that is no more than 16. */
+        /** All terms up to one; for a size that is no more than 16. */
         void evaluate(int interpretation, int size, int last) {
             takeThings(interpretation, size);
             for (int t = 0; t <= last; t++) {
@@ -1352,7 +1280,7 @@ public final class VectorSolver {
         void takeThings(int interpretation, int size) {
             for (int i = 0; i < book.things; i++) {
                 int t = book.thingTerm[i];
-                worth[t] = interpretation >>> book.shift(i, size) & Sorts.mask(terms.sort[t]);
+                worth[t] = (interpretation >>> book.shift(i, size)) & terms.full[t];
             }
         }
 
@@ -1362,96 +1290,60 @@ public final class VectorSolver {
             if (op == CONSTANT) {
                 worth[t] = terms.bits[t];
             } else if (op != THING) {
-                worth[t] = applied(t, op) & Sorts.mask(terms.sort[t]);
+                worth[t] = applied(t, op, terms.first[t]) & terms.full[t];
             }
         }
 
-        private long applied(int t, int op) {
-            long a = worthOf(t, 0);
+        private long applied(int t, int op, int first) {
+            int a = terms.args[first];
             switch (op) {
-                case NOT:
-                case BVNOT:
-                    return ~a;
-                case BVNEG:
-                    return -a;
-                case ITE:
-                    return a != 0L ? worthOf(t, 1) : worthOf(t, 2);
-                case IMPLIES:
-                    return implication(t);
-                case EQUAL:
-                    return isAllSame(t) ? 1L : 0L;
-                case DISTINCT:
-                    return isAllOther(t) ? 1L : 0L;
-                case CONCAT:
-                    return concat(t);
-                case EXTRACT:
-                    return a >>> terms.low[t];
-                case ZERO_EXTEND:
-                    return a;
-                case SIGN_EXTEND:
-                    return Words.signed(a, firstSort(t));
-                case SELECT:
-                    return Sorts.cell(firstSort(t), a, worthOf(t, 1));
-                case STORE:
-                    return store(t, a);
-                default:
-                    return op >= BVSUB ? ofTwo(t, op, a) : folded(t, op, a);
+                case NOT: case BVNOT: return ~worth[a];
+                case BVNEG: return -worth[a];
+                case ITE: return worth[terms.args[worth[a] != 0L ? first + 1 : first + 2]];
+                case IMPLIES: return implication(t);
+                case EQUAL: return isAllSame(t) ? 1L : 0L;
+                case DISTINCT: return isAllOther(t) ? 1L : 0L;
+                case AND: case BVAND: case OR: case BVOR: case XOR: case BVXOR: case BVADD: case BVMUL:
+                    return folded(t, op);
+                case CONCAT: return concat(t);
+                case EXTRACT: return worth[a] >>> terms.low[t];
+                case ZERO_EXTEND: return worth[a];
+                case SIGN_EXTEND: return Words.signed(worth[a], terms.sort[a]);
+                case SELECT: return Sorts.cell(terms.sort[a], worth[a], worth[terms.args[first + 1]]);
+                case STORE: return store(a, worth[terms.args[first + 1]], worth[terms.args[first + 2]]);
+                case BVULT: case BVULE: case BVUGT: case BVUGE:
+                case BVSLT: case BVSLE: case BVSGT: case BVSGE:
+                    return Words.compare(op, worth[a], worth[terms.args[first + 1]], terms.sort[a]) ? 1L : 0L;
+                default: return Words.two(op, worth[a], worth[terms.args[first + 1]], terms.sort[a]);
             }
         }
 
-        private int firstSort(int t) {
-            return terms.sort[terms.argument(t, 0)];
-        }
-
-        private long worthOf(int t, int which) {
-            return worth[terms.argument(t, which)];
-        }
-
-        private long ofTwo(int t, int op, long a) {
-            long b = worthOf(t, 1);
-            if (op >= BVULT) {
-                return Words.compare(op, a, b, firstSort(t)) ? 1L : 0L;
-            }
-            return Words.two(op, a, b, firstSort(t));
-        }
-
-        private long folded(int t, int op, long a) {
-            long all = a;
-            for (int i = 1; i < terms.many(t); i++) {
-                all = joined(op, all, worthOf(t, i));
+        private long folded(int t, int op) {
+            long all = worth[terms.args[terms.first[t]]];
+            for (int i = terms.first[t] + 1; i < terms.first[t + 1]; i++) {
+                long b = worth[terms.args[i]];
+                switch (op) {
+                    case AND: case BVAND: all &= b; break;
+                    case OR: case BVOR: all |= b; break;
+                    case XOR: case BVXOR: all ^= b; break;
+                    case BVADD: all += b; break;
+                    default: all *= b;
+                }
             }
             return all;
         }
 
-        private static long joined(int op, long a, long b) {
-            switch (op) {
-                case AND:
-                case BVAND:
-                    return a & b;
-                case OR:
-                case BVOR:
-                    return a | b;
-                case XOR:
-                case BVXOR:
-                    return a ^ b;
-                case BVADD:
-                    return a + b;
-                default:
-                    return a * b;
-            }
-        }
-
         private long implication(int t) {
-            long all = worthOf(t, terms.many(t) - 1);
-            for (int i = terms.many(t) - 2; i >= 0; i--) {
-                all |= ~worthOf(t, i);
+            long all = worth[terms.args[terms.first[t + 1] - 1]];
+            for (int i = terms.first[t + 1] - 2; i >= terms.first[t]; i--) {
+                all |= ~worth[terms.args[i]];
             }
             return all;
         }
 
         private boolean isAllSame(int t) {
-            for (int i = 1; i < terms.many(t); i++) {
-                if (worthOf(t, i) != worthOf(t, 0)) {
+            for (int i = terms.first[t] + 1; i < terms.first[t + 1]; i++) {
+                if (worth[terms.args[i]] != worth[terms.args[i - 1]]) {
                     return false;
                 }
             }
@@ -1459,9 +1351,9 @@ public final class VectorSolver {
         }
 
         private boolean isAllOther(int t) {
-            for (int i = 1; i < terms.many(t); i++) {
-                for (int j = 0; j < i; j++) {
-                    if (worthOf(t, i) == worthOf(t, j)) {
+            for (int i = terms.first[t] + 1; i < terms.first[t + 1]; i++) {
+                for (int j = terms.first[t]; j < i; j++) {
+                    if (worth[terms.args[i]] == worth[terms.args[j]]) {
                         return false;
                     }
                 }
@@ -1472,15 +1364,17 @@ public final class VectorSolver {
         private long concat(int t) {
             long all = 0L;
             for (int i = terms.first[t]; i < terms.first[t + 1]; i++) {
-                all = all << terms.sort[terms.args[i]] | worth[terms.args[i]];
+                int a = terms.args[i];
+                all = (all << terms.sort[a]) | worth[a];
             }
             return all;
         }
 
-        private long store(int t, long array) {
-            int sort = terms.sort[t];
-            int shift = Sorts.cellShift(sort, worthOf(t, 1));
-            return array & ~(Sorts.cellMask(sort) << shift) | worthOf(t, 2) << shift;
+        private long store(int array, long index, long vector) {
+            int sort = terms.sort[array];
+            int shift = Sorts.cellShift(sort, index);
+            long cell = Words.mask(Sorts.width(sort)) << shift;
+            return (worth[array] & ~cell) | (vector << shift);
         }
     }
 
@@ -1514,7 +1408,7 @@ public final class VectorSolver {
                 long bits = asked[t];
                 if (bits != 0L) {
                     asked[t] = 0L;
-                    explainTerm(t, bits);
+                    explainTerm(t, terms.args[terms.first[t]], bits);
                 }
             }
             return mask;
@@ -1522,7 +1416,7 @@ public final class VectorSolver {
 
         private void ask(int t, long bits) {
             if (terms.op[t] == THING) {
-                mask |= (int) bits << book.shift(terms.low[t], size);
+                mask |= (int) bits << (size - book.before[terms.low[t] + 1]);
             } else if (terms.op[t] != CONSTANT) {
                 asked[t] |= bits;
             }
@@ -1534,103 +1428,47 @@ public final class VectorSolver {
             }
         }
 
-        private long full(int t) {
-            return Sorts.mask(terms.sort[t]);
-        }
-
-        private void explainTerm(int t, long bits) {
-            int a = terms.argument(t, 0);
+        private void explainTerm(int t, int a, long bits) {
             switch (terms.op[t]) {
-                case NOT:
-                case BVNOT:
-                    ask(a, bits);
-                    break;
-                case AND:
-                case BVAND:
-                    askAll(t, bits & worth[t]);
-                    askSome(t, bits & ~worth[t], -1L);
-                    break;
-                case OR:
-                case BVOR:
-                    askAll(t, bits & ~worth[t]);
-                    askSome(t, bits & worth[t], 0L);
-                    break;
-                case XOR:
-                case BVXOR:
-                    askAll(t, bits);
-                    break;
-                case IMPLIES:
-                    explainImplication(t);
-                    break;
-                case ITE:
-                    ask(a, 1L);
-                    ask(terms.argument(t, worth[a] != 0L ? 1 : 2), bits);
-                    break;
-                case BVNEG:
-                case BVADD:
-                case BVSUB:
-                    askAll(t, Words.upToHighest(bits));
-                    break;
-                case BVMUL:
-                    explainProduct(t, Words.upToHighest(bits));
-                    break;
-                default:
-                    explainOther(t, a, bits);
+                case NOT: case BVNOT: ask(a, bits); break;
+                case AND: case BVAND: explainBitwise(t, bits & worth[t], bits & ~worth[t], -1L); break;
+                case OR: case BVOR: explainBitwise(t, bits & ~worth[t], bits & worth[t], 0L); break;
+                case XOR: case BVXOR: askAll(t, bits); break;
+                case IMPLIES: explainImplication(t); break;
+                case ITE: explainIte(t, a, bits); break;
+                case EQUAL: explainEqual(t, a); break;
+                case DISTINCT: explainDistinct(t); break;
+                case BVNEG: case BVADD: case BVSUB: askAll(t, Words.upToHighest(bits)); break;
+                case BVMUL: explainProduct(t, Words.upToHighest(bits)); break;
+                case BVUDIV: case BVUREM: case BVSDIV: case BVSREM: askAll(t, terms.full[a]); break;
+                case BVSHL: case BVLSHR: explainShift(t, a, bits); break;
+                case BVASHR: explainSignedShift(t, a, bits); break;
+                case CONCAT: explainConcat(t, bits); break;
+                case EXTRACT: ask(a, bits << terms.low[t]); break;
+                case ZERO_EXTEND: ask(a, bits & terms.full[a]); break;
+                case SIGN_EXTEND: askFilled(a, bits & terms.full[a], (bits & ~terms.full[a]) != 0L); break;
+                case SELECT: explainSelect(t, a, bits); break;
+                case STORE: explainStore(t, a, bits); break;
+                default: explainComparison(t, a);
             }
         }
 
-        private void explainOther(int t, int a, long bits) {
-            switch (terms.op[t]) {
-                case EQUAL:
-                    explainEqual(t, a);
-                    break;
-                case DISTINCT:
-                    explainDistinct(t);
-                    break;
-                case BVSHL:
-                case BVLSHR:
-                case BVASHR:
-                    explainShift(t, a, bits);
-                    break;
-                case CONCAT:
-                    explainConcat(t, bits);
-                    break;
-                case EXTRACT:
-                    ask(a, bits << terms.low[t]);
-                    break;
-                case ZERO_EXTEND:
-                    ask(a, bits & full(a));
-                    break;
-                case SIGN_EXTEND:
-                    ask(a, bits & full(a) | ((bits & ~full(a)) != 0L ? Words.highest(full(a)) : 0L));
-                    break;
-                case SELECT:
-                    explainSelect(t, a, bits);
-                    break;
-                case STORE:
-                    explainStore(t, a, bits);
-                    break;
-                default:
-                    explainWhole(t, a);
-            }
-        }
-
-        /** For each bit one argument is enough whose bit, turned by flip, is 1. */
-        private void askSome(int t, long bits, long flip) {
-            long rest = bits;
-            for (int turn = 0; turn < terms.many(t) && rest != 0L; turn++) {
+        /** Some bits hang on all arguments; for the others one is enough whose bit, turned by turn, is 1. */
+        private void explainBitwise(int t, long all, long some, long turn) {
+            askAll(t, all);
+            long rest = some;
+            for (int i = terms.first[t]; i < terms.first[t + 1] && rest != 0L; i++) {
                 int best = NONE;
-                for (int i = terms.first[t]; i < terms.first[t + 1]; i++) {
-                    int a = terms.args[i];
-                    if ((rest & (worth[a] ^ flip)) != 0L && isBetter(a, best)) {
+                for (int j = terms.first[t]; j < terms.first[t + 1]; j++) {
+                    int a = terms.args[j];
+                    if ((rest & (worth[a] ^ turn)) != 0L && isBetter(a, best)) {
                         best = a;
                     }
                 }
-                if (best == NONE) {
-                    return;
+                if (best != NONE) {
+                    ask(best, rest & (worth[best] ^ turn));
+                    rest &= ~(worth[best] ^ turn);
                 }
-                ask(best, rest & (worth[best] ^ flip));
-                rest &= ~(worth[best] ^ flip);
             }
         }
 
@@ -1657,6 +1495,12 @@ public final class VectorSolver {
             }
         }
 
+        private void explainIte(int t, int a, long bits) {
+            ask(a, 1L);
+            ask(terms.args[terms.first[t] + (worth[a] != 0L ? 1 : 2)], bits);
+        }
+
+        /** A factor that ends in as many zeros does alone. */
         private void explainProduct(int t, long bits) {
             int best = NONE;
             for (int i = terms.first[t]; i < terms.first[t + 1]; i++) {
@@ -1674,7 +1518,7 @@ public final class VectorSolver {
 
         private void explainEqual(int t, int a) {
             if (worth[t] != 0L) {
-                askAll(t, full(a));
+                askAll(t, terms.full[a]);
                 return;
             }
             for (int i = terms.first[t] + 1; i < terms.first[t + 1]; i++) {
@@ -1686,26 +1530,26 @@ public final class VectorSolver {
         }
 
         private void explainDistinct(int t) {
-            boolean other = worth[t] != 0L;
             for (int i = terms.first[t] + 1; i < terms.first[t + 1]; i++) {
                 for (int j = terms.first[t]; j < i; j++) {
                     int a = terms.args[i];
                     int b = terms.args[j];
-                    if (other) {
+                    if (worth[t] != 0L) {
                         explainDifference(a, b);
                     } else if (worth[a] == worth[b]) {
-                        ask(a, full(a));
-                        ask(b, full(a));
+                        ask(a, terms.full[a]);
+                        ask(b, terms.full[b]);
                         return;
                     }
                 }
             }
         }
 
-        /** Carries run upwards, so that the lowest bit of a sum hangs on least; else high bits are better. */
+        /** Carries run upwards, so that the lowest bit of a sum hangs on least; else the highest is best. */
         private void explainDifference(int a, int b) {
             long bits = worth[a] ^ worth[b];
-            long one = hasCarries(a) || hasCarries(b) ? bits & -bits : Words.highest(bits);
+            long upTo = Words.upToHighest(bits);
+            long one = hasCarries(a) || hasCarries(b) ? bits & -bits : upTo ^ (upTo >>> 1);
             ask(a, one);
             ask(b, one);
         }
@@ -1716,51 +1560,54 @@ public final class VectorSolver {
         }
 
         private void explainShift(int t, int a, long bits) {
-            int by = terms.argument(t, 1);
-            int width = terms.sort[a];
-            ask(by, full(a));
-            if (terms.op[t] == BVASHR) {
-                int shift = Words.signShift(worth[by], width);
-                boolean filled = (bits & ~(full(a) >>> shift)) != 0L;
-                ask(a, bits << shift & full(a) | (filled ? Words.highest(full(a)) : 0L));
-            } else if (Words.less(worth[by], width)) {
+            int by = terms.args[terms.first[t] + 1];
+            ask(by, terms.full[by]);
+            if (Words.less(worth[by], terms.sort[a])) {
                 int shift = (int) worth[by];
-                ask(a, terms.op[t] == BVSHL ? bits >>> shift : bits << shift & full(a));
+                ask(a, terms.op[t] == BVSHL ? bits >>> shift : (bits << shift) & terms.full[a]);
             }
+        }
+
+        private void explainSignedShift(int t, int a, long bits) {
+            int by = terms.args[terms.first[t] + 1];
+            ask(by, terms.full[by]);
+            int shift = Words.signShift(worth[by], terms.sort[a]);
+            askFilled(a, (bits << shift) & terms.full[a], (bits & ~(terms.full[a] >>> shift)) != 0L);
+        }
+
+        /** With the highest bit if that fills others. */
+        private void askFilled(int a, long bits, boolean filled) {
+            ask(a, filled ? bits | (terms.full[a] ^ (terms.full[a] >>> 1)) : bits);
         }
 
         private void explainConcat(int t, long bits) {
             long rest = bits;
             for (int i = terms.first[t + 1] - 1; i >= terms.first[t]; i--) {
                 int a = terms.args[i];
-                ask(a, rest & full(a));
+                ask(a, rest & terms.full[a]);
                 rest >>>= terms.sort[a];
             }
         }
 
         private void explainSelect(int t, int a, long bits) {
-            int index = terms.argument(t, 1);
-            ask(index, full(index));
+            int index = terms.args[terms.first[t] + 1];
+            ask(index, terms.full[index]);
             ask(a, bits << Sorts.cellShift(terms.sort[a], worth[index]));
         }
 
         private void explainStore(int t, int a, long bits) {
-            int index = terms.argument(t, 1);
+            int index = terms.args[terms.first[t] + 1];
+            int vector = terms.args[terms.first[t] + 2];
             int shift = Sorts.cellShift(terms.sort[a], worth[index]);
-            long cell = Sorts.cellMask(terms.sort[a]) << shift;
-            ask(index, full(index));
-            ask(a, bits & ~cell);
-            ask(terms.argument(t, 2), (bits & cell) >>> shift);
+            ask(index, terms.full[index]);
+            ask(vector, (bits >>> shift) & terms.full[vector]);
+            ask(a, bits & ~(terms.full[vector] << shift));
         }
 
-        /** Divisions hang on all bits; comparisons on those from the highest one that differs on. */
-        private void explainWhole(int t, int a) {
-            long bits = full(a);
-            if (terms.op[t] >= BVULT) {
-                long differing = worth[a] ^ worth[terms.argument(t, 1)];
-                bits &= ~(Words.upToHighest(differing) >>> 1);
-            }
-            askAll(t, bits);
+        /** The bits from the highest one that differs on decide it; all of them if none does. */
+        private void explainComparison(int t, int a) {
+            long differing = worth[a] ^ worth[terms.args[terms.first[t] + 1]];
+            askAll(t, terms.full[a] & ~(Words.upToHighest(differing) >>> 1));
         }
     }
 
@@ -1786,14 +1633,13 @@ public final class VectorSolver {
             for (int i = 0; i < book.things; i++) {
                 int t = book.thingTerm[i];
                 int shift = book.shift(i, size);
-                long full = Sorts.mask(terms.sort[t]);
-                learn(t, mask >>> shift & full, held >>> shift);
+                learn(t, (mask >>> shift) & terms.full[t], held >>> shift);
             }
             terms.markCone(goal, marked);
             for (int t = terms.lowest[goal]; t <= goal; t++) {
                 if (marked[t] != 0) {
                     marked[t] = 0;
-                    workOut(t);
+                    workOut(t, terms.first[t]);
                 }
             }
             return known[goal] != 0L && ones[goal] == 0L;
@@ -1801,13 +1647,13 @@ public final class VectorSolver {
 
         /** Whether all that has the bits that are held is less than the start. */
         boolean followsBound(int mask, int held, int start, int size) {
-            int free = (1 << size) - 1 & ~mask;
+            int free = ((1 << size) - 1) & ~mask;
             return (held | free) < start;
         }
 
         /**
-         * Whether one thing follows from two: none has the bits of the first, none those of the
-         * second, and they say the same but of one bit, of which they say the contrary.
+         * Whether one nogood follows from two: that is so if they say the same of all bits of which
+         * both say something, but for one, and it has all the others of both.
          */
         boolean followsBoth(int bit, int mask, int held, int otherMask, int otherHeld, int joined) {
             boolean contrary = (mask & otherMask & (held ^ otherHeld)) == bit;
@@ -1819,102 +1665,47 @@ public final class VectorSolver {
             ones[t] = itsOnes & itsKnown;
         }
 
-        private long full(int t) {
-            return Sorts.mask(terms.sort[t]);
+        private void learnEither(int t, boolean yes, boolean no) {
+            learn(t, yes || no ? 1L : 0L, yes ? 1L : 0L);
         }
 
         private boolean isKnown(int t) {
-            return known[t] == full(t);
+            return known[t] == terms.full[t];
         }
 
-        private void workOut(int t) {
+        private void workOut(int t, int first) {
             int op = terms.op[t];
             switch (op) {
-                case THING:
+                case THING: break;
+                case CONSTANT: learn(t, terms.full[t], terms.bits[t]); break;
+                case NOT: case BVNOT: learn(t, known[terms.args[first]], ~ones[terms.args[first]]); break;
+                case AND: case BVAND: workOutAnd(t); break;
+                case OR: case BVOR: case IMPLIES: workOutOr(t, op == IMPLIES); break;
+                case XOR: case BVXOR: workOutXor(t); break;
+                case ITE: workOutIte(t, terms.args[first], terms.args[first + 1], terms.args[first + 2]); break;
+                case EQUAL: workOutEqual(t); break;
+                case DISTINCT: workOutDistinct(t); break;
+                case BVADD: workOutSum(t); break;
+                case BVMUL: workOutProduct(t); break;
+                case CONCAT: workOutConcat(t); break;
+                case BVNEG: case EXTRACT: case ZERO_EXTEND: case SIGN_EXTEND:
+                    workOutOfOne(t, terms.args[first]);
                     break;
-                case CONSTANT:
-                    learn(t, full(t), terms.bits[t]);
+                case BVSUB: workOutDifference(t, terms.args[first], terms.args[first + 1]); break;
+                case BVUDIV: case BVUREM: case BVSDIV: case BVSREM:
+                    workOutDivision(t, terms.args[first], terms.args[first + 1]);
                     break;
-                case AND:
-                case BVAND:
-                    workOutAnd(t);
+                case BVSHL: case BVLSHR: case BVASHR:
+                    workOutShift(t, terms.args[first], terms.args[first + 1]);
                     break;
-                case OR:
-                case BVOR:
-                case IMPLIES:
-                    workOutOr(t, op == IMPLIES);
-                    break;
-                case XOR:
-                case BVXOR:
-                    workOutXor(t);
-                    break;
-                case ITE:
-                    workOutIte(t);
-                    break;
-                case EQUAL:
-                    workOutEqual(t);
-                    break;
-                case DISTINCT:
-                    workOutDistinct(t);
-                    break;
-                case BVADD:
-                    workOutSum(t);
-                    break;
-                case BVMUL:
-                    workOutProduct(t);
-                    break;
-                case CONCAT:
-                    workOutConcat(t);
-                    break;
-                default:
-                    workOutFew(t, op, terms.argument(t, 0));
-            }
-        }
-
-        /** Those that have one argument, or two or three and no more. */
-        private void workOutFew(int t, int op, int a) {
-            switch (op) {
-                case NOT:
-                case BVNOT:
-                    learn(t, known[a], ~ones[a]);
-                    break;
-                case BVNEG:
-                    learn(t, Words.lowestRun(known[a]), -ones[a]);
-                    break;
-                case BVSUB:
-                    workOutDifference(t, a, terms.argument(t, 1));
-                    break;
-                case EXTRACT:
-                    learn(t, known[a] >>> terms.low[t] & full(t), ones[a] >>> terms.low[t]);
-                    break;
-                case ZERO_EXTEND:
-                    learn(t, known[a] | full(t) & ~full(a), ones[a]);
-                    break;
-                case SIGN_EXTEND:
-                    learn(t, Words.signed(known[a], terms.sort[a]) & full(t), Words.signed(ones[a], terms.sort[a]));
-                    break;
-                case SELECT:
-                    workOutSelect(t, a, terms.argument(t, 1));
-                    break;
-                case STORE:
-                    workOutStore(t, a, terms.argument(t, 1));
-                    break;
-                case BVSHL:
-                case BVLSHR:
-                case BVASHR:
-                    workOutShift(t, a, terms.argument(t, 1));
-                    break;
-                default:
-                    if (op >= BVULT) {
-                        workOutComparison(t, a, terms.argument(t, 1));
-                    } else {
-                        workOutDivision(t, a, terms.argument(t, 1));
-                    }
+                case SELECT: workOutSelect(t, terms.args[first], terms.args[first + 1]); break;
+                case STORE: workOutStore(t, terms.args[first], terms.args[first + 1], terms.args[first + 2]); break;
+                default: workOutComparison(t, terms.args[first], terms.args[first + 1]);
             }
         }
 
         private void workOutAnd(int t) {
-            long all = full(t);
+            long all = terms.full[t];
             long zeros = 0L;
             for (int i = terms.first[t]; i < terms.first[t + 1]; i++) {
                 int a = terms.args[i];
@@ -1927,19 +1718,19 @@ public final class VectorSolver {
         /** In an implication all arguments but the last one count as turned. */
         private void workOutOr(int t, boolean implication) {
             long some = 0L;
-            long zeros = full(t);
+            long zeros = terms.full[t];
             int last = terms.first[t + 1] - 1;
             for (int i = terms.first[t]; i <= last; i++) {
                 int a = terms.args[i];
-                long turned = implication && i < last ? known[a] : 0L;
-                some |= ones[a] ^ turned;
-                zeros &= known[a] & ~(ones[a] ^ turned);
+                long turn = implication && i < last ? known[a] : 0L;
+                some |= ones[a] ^ turn;
+                zeros &= known[a] & ~(ones[a] ^ turn);
             }
             learn(t, some | zeros, some);
         }
 
         private void workOutXor(int t) {
-            long both = full(t);
+            long both = terms.full[t];
             long sum = 0L;
             for (int i = terms.first[t]; i < terms.first[t + 1]; i++) {
                 both &= known[terms.args[i]];
@@ -1948,10 +1739,7 @@ public final class VectorSolver {
             learn(t, both, sum);
         }
 
-        private void workOutIte(int t) {
-            int a = terms.argument(t, 0);
-            int yes = terms.argument(t, 1);
-            int no = terms.argument(t, 2);
+        private void workOutIte(int t, int a, int yes, int no) {
             if (isKnown(a)) {
                 int taken = ones[a] != 0L ? yes : no;
                 learn(t, known[taken], ones[taken]);
@@ -1969,14 +1757,14 @@ public final class VectorSolver {
         }
 
         private void workOutEqual(int t) {
-            int a = terms.argument(t, 0);
+            int a = terms.args[terms.first[t]];
             boolean same = true;
             boolean other = false;
             for (int i = terms.first[t] + 1; i < terms.first[t + 1]; i++) {
                 same &= isSurelySame(a, terms.args[i]);
                 other |= isSurelyOther(a, terms.args[i]);
             }
-            learn(t, same || other ? 1L : 0L, same ? 1L : 0L);
+            learnEither(t, same, other);
         }
 
         private void workOutDistinct(int t) {
@@ -1988,12 +1776,12 @@ public final class VectorSolver {
                     other &= isSurelyOther(terms.args[i], terms.args[j]);
                 }
             }
-            learn(t, same || other ? 1L : 0L, other ? 1L : 0L);
+            learnEither(t, other, same);
         }
 
-        /** Up to the lowest bit that is not known a sum, a difference and a product are known. */
+        /** Up to the lowest bit that is not known a sum is known, as carries run upwards. */
         private void workOutSum(int t) {
-            long run = full(t);
+            long run = terms.full[t];
             long sum = 0L;
             for (int i = terms.first[t]; i < terms.first[t + 1]; i++) {
                 run &= Words.lowestRun(known[terms.args[i]]);
@@ -2003,30 +1791,45 @@ public final class VectorSolver {
         }
 
         private void workOutDifference(int t, int a, int b) {
-            learn(t, Words.lowestRun(known[a]) & Words.lowestRun(known[b]), ones[a] - ones[b]);
+            learn(t, Words.lowestRun(known[a] & known[b]), ones[a] - ones[b]);
         }
 
-        /** Zeros at the end of one number shift the unknown bits of the other one up. */
+        /** Zeros at the end of one factor shift the unknown bits of the other one up. */
         private void workOutProduct(int t) {
-            long run = full(t);
+            long run = terms.full[t];
             long product = 1L;
             for (int i = terms.first[t]; i < terms.first[t + 1]; i++) {
                 int a = terms.args[i];
                 long itsRun = Words.lowestRun(known[a]);
-                long zeros = Words.lowestRun(known[a] & ~ones[a]);
-                long productZeros = Words.lowestRun(run & ~product);
-                int bits = Math.min(
-                    Long.bitCount(run) + Long.bitCount(zeros),
-                    Long.bitCount(itsRun) + Long.bitCount(productZeros));
+                int itsZeros = Long.bitCount(Words.lowestRun(known[a] & ~ones[a]));
+                int zeros = Long.bitCount(Words.lowestRun(run & ~product));
+                int bits = Math.min(Long.bitCount(run) + itsZeros, Long.bitCount(itsRun) + zeros);
                 product = (product & run) * (ones[a] & itsRun);
-                run = Words.mask(bits) & full(t);
+                run = Words.mask(bits) & terms.full[t];
             }
             learn(t, run, product);
         }
 
+        private void workOutOfOne(int t, int a) {
+            int width = terms.sort[a];
+            switch (terms.op[t]) {
+                case BVNEG:
+                    learn(t, Words.lowestRun(known[a]), -ones[a]);
+                    break;
+                case EXTRACT:
+                    learn(t, (known[a] >>> terms.low[t]) & terms.full[t], ones[a] >>> terms.low[t]);
+                    break;
+                case ZERO_EXTEND:
+                    learn(t, known[a] | (terms.full[t] & ~terms.full[a]), ones[a]);
+                    break;
+                default:
+                    learn(t, Words.signed(known[a], width) & terms.full[t], Words.signed(ones[a], width));
+            }
+        }
+
         private void workOutDivision(int t, int a, int b) {
             if (isKnown(a) && isKnown(b)) {
-                learn(t, full(t), Words.two(terms.op[t], ones[a], ones[b], terms.sort[t]));
+                learn(t, terms.full[t], Words.two(terms.op[t], ones[a], ones[b], terms.sort[t]));
             } else {
                 learn(t, 0L, 0L);
             }
@@ -2034,55 +1837,39 @@ public final class VectorSolver {
 
         private void workOutShift(int t, int a, int by) {
             int width = terms.sort[t];
+            long full = terms.full[t];
+            int shift = Words.signShift(ones[by], width);
             if (!isKnown(by)) {
                 learn(t, 0L, 0L);
             } else if (terms.op[t] == BVASHR) {
-                int shift = Words.signShift(ones[by], width);
-                learn(t, Words.signed(known[a], width) >> shift & full(t), Words.signed(ones[a], width) >> shift);
+                learn(t, (Words.signed(known[a], width) >> shift) & full, Words.signed(ones[a], width) >> shift);
             } else if (!Words.less(ones[by], width)) {
-                learn(t, full(t), 0L);
+                learn(t, full, 0L);
             } else if (terms.op[t] == BVSHL) {
-                int shift = (int) ones[by];
-                learn(t, (known[a] << shift | Words.mask(shift)) & full(t), ones[a] << shift);
+                learn(t, ((known[a] << shift) | Words.mask(shift)) & full, ones[a] << shift);
             } else {
-                int shift = (int) ones[by];
-                learn(t, known[a] >>> shift | full(t) & ~(full(t) >>> shift), ones[a] >>> shift);
+                learn(t, (known[a] >>> shift) | (full & ~(full >>> shift)), ones[a] >>> shift);
             }
         }
 
         /** By the least and the greatest number that each of the two may be. */
         private void workOutComparison(int t, int a, int b) {
             int op = terms.op[t];
-            int width = terms.sort[a];
-            long flip = Words.flipped(op, width);
-            long leastA = ones[a] ^ flip & known[a];
-            long mostA = leastA | full(a) & ~known[a];
-            long leastB = ones[b] ^ flip & known[b];
-            long mostB = leastB | full(b) & ~known[b];
-            boolean surelyLess = Words.less(mostA, leastB);
-            boolean surelyGreater = Words.less(mostB, leastA);
-            boolean surelyNotLess = !Words.less(leastA, mostB);
-            boolean surelyNotGreater = !Words.less(leastB, mostA);
+            long turn = Words.turned(op, terms.sort[a]);
+            long leastA = ones[a] ^ (turn & known[a]);
+            long mostA = leastA | (terms.full[a] & ~known[a]);
+            long leastB = ones[b] ^ (turn & known[b]);
+            long mostB = leastB | (terms.full[b] & ~known[b]);
+            boolean less = Words.less(mostA, leastB);
+            boolean notLess = !Words.less(leastA, mostB);
+            boolean greater = Words.less(mostB, leastA);
+            boolean notGreater = !Words.less(leastB, mostA);
             switch (op) {
-                case BVULT:
-                case BVSLT:
-                    learnEither(t, surelyLess, surelyNotLess);
-                    break;
-                case BVULE:
-                case BVSLE:
-                    learnEither(t, surelyNotGreater, surelyGreater);
-                    break;
-                case BVUGT:
-                case BVSGT:
-                    learnEither(t, surelyGreater, surelyNotGreater);
-                    break;
-                default:
-                    learnEither(t, surelyNotLess, surelyLess);
+                case BVULT: case BVSLT: learnEither(t, less, notLess); break;
+                case BVULE: case BVSLE: learnEither(t, notGreater, greater); break;
+                case BVUGT: case BVSGT: learnEither(t, greater, notGreater); break;
+                default: learnEither(t, notLess, less);
             }
-        }
-
-        private void learnEither(int t, boolean yes, boolean no) {
-            learn(t, yes || no ? 1L : 0L, yes ? 1L : 0L);
         }
 
         private void workOutConcat(int t) {
@@ -2090,37 +1877,36 @@ public final class VectorSolver {
             long sum = 0L;
             for (int i = terms.first[t]; i < terms.first[t + 1]; i++) {
                 int a = terms.args[i];
-                all = all << terms.sort[a] | known[a];
-                sum = sum << terms.sort[a] | ones[a];
+                all = (all << terms.sort[a]) | known[a];
+                sum = (sum << terms.sort[a]) | ones[a];
             }
             learn(t, all, sum);
         }
 
         private void workOutSelect(int t, int a, int index) {
             if (isKnown(index)) {
-                int sort = terms.sort[a];
-                learn(t, Sorts.cell(sort, known[a], ones[index]), Sorts.cell(sort, ones[a], ones[index]));
+                int shift = Sorts.cellShift(terms.sort[a], ones[index]);
+                learn(t, (known[a] >>> shift) & terms.full[t], ones[a] >>> shift);
             } else {
                 learn(t, 0L, 0L);
             }
         }
 
-        private void workOutStore(int t, int a, int index) {
-            if (!isKnown(index)) {
+        private void workOutStore(int t, int a, int index, int vector) {
+            if (isKnown(index)) {
+                int shift = Sorts.cellShift(terms.sort[t], ones[index]);
+                long others = ~(terms.full[vector] << shift);
+                learn(t, (known[a] & others) | (known[vector] << shift), (ones[a] & others) | (ones[vector] << shift));
+            } else {
                 learn(t, 0L, 0L);
-                return;
             }
-            int shift = Sorts.cellShift(terms.sort[t], ones[index]);
-            long others = ~(Sorts.cellMask(terms.sort[t]) << shift);
-            int put = terms.argument(t, 2);
-            learn(t, known[a] & others | known[put] << shift, ones[a] & others | ones[put] << shift);
         }
     }
 
     /**
      * Looks for the least interpretation from a start on, upwards. Where a goal is false it learns a
-     * NOGOOD, some bits with which none of the interpretations can be right, goes on at the next one
-     * that has not all of these, and joins the nogoods for both values of a bit into one without it.
+     * NOGOOD, some bits that no right interpretation has together, goes on at the next one that has
+     * not all of them, and joins the nogoods for both values of a bit into one without that bit.
      */
     private static final class Search {
         private final Book book;
@@ -2131,18 +1917,18 @@ public final class VectorSolver {
         private final int[] depends = new int[MOST_TERMS];
         private final int[] goals = new int[MOST_ASSERTIONS + 1];
         private int goalCount;
-        /** The terms that a goal has and those before it have not: up to steps[stepEnd[g]]. */
+        /** The terms that goal g has and those before it have not: steps up to stepEnd[g]. */
         private final int[] steps = new int[MOST_TERMS];
         private final int[] stepEnd = new int[MOST_ASSERTIONS + 1];
-        /** The interpretation with which the steps of a goal were gone last. */
+        /** The interpretation for which the steps of a goal were worked out last. */
         private final int[] stepsAt = new int[MOST_ASSERTIONS + 1];
-        /** 1 while a goal's terms are being looked for, 2 for those that are steps already. */
         private final byte[] marked = new byte[MOST_TERMS];
         private final byte[] listed = new byte[MOST_TERMS];
-        /** For each bit that is 1 now: the nogood that rules it out that it were 0, its mask and its bits. */
+        /** For each bit that is 1 now: the nogood by which it is not 0, its mask and its bits. */
         private final int[] nogoodMask = new int[MOST_SIZE];
         private final int[] nogoodHeld = new int[MOST_SIZE];
         private int size;
+        private int allBits;
         int refusedOnes;
 
         Search(Book itsBook) {
@@ -2153,11 +1939,11 @@ public final class VectorSolver {
             checker = new Checker(itsBook);
         }
 
-        /** NONE if there is none from the start on; of a size that is no more than 16. */
+        /** NONE if there is none from the start on; for a size that is no more than 16. */
         int least(int start, int itsSize, int supposed) {
             size = itsSize;
-            int end = 1 << size;
-            if (start >= end) {
+            allBits = (1 << size) - 1;
+            if (start > allBits) {
                 return NONE;
             }
             findDependencies();
@@ -2165,25 +1951,27 @@ public final class VectorSolver {
             listSteps(start);
             learnBound(start);
             int at = start;
-            for (int tries = 0; tries < end && at != NONE; tries++) {
+            for (int tries = 0; tries <= allBits && at != NONE; tries++) {
                 int goal = falseGoal(at);
                 if (goal == NONE) {
                     return at;
                 }
-                at = nextAfter(at, learnWhy(goal, at));
+                int mask = learner.explain(goal, size);
+                // With all bits it says no more than was tried, and needs no look.
+                if (mask != allBits && !checker.followsFalse(goal, mask, at & mask, size)) {
+                    refusedOnes++;
+                    mask = allBits;
+                }
+                at = nextAfter(at, mask);
             }
             return NONE;
-        }
-
-        private int allBits() {
-            return (1 << size) - 1;
         }
 
         private void findDependencies() {
             for (int t = 0; t < terms.made; t++) {
                 int all = 0;
                 if (terms.op[t] == THING) {
-                    all = (int) Sorts.mask(terms.sort[t]) << book.shift(terms.low[t], size);
+                    all = (int) terms.full[t] << book.shift(terms.low[t], size);
                 }
                 for (int i = terms.first[t]; i < terms.first[t + 1]; i++) {
                     all |= depends[terms.args[i]];
@@ -2212,6 +2000,7 @@ public final class VectorSolver {
             }
         }
 
+        /** All are worked out once, as what hangs on no bit never is again. */
         private void listSteps(int start) {
             for (int t = 0; t < terms.made; t++) {
                 listed[t] = 0;
@@ -2235,18 +2024,17 @@ public final class VectorSolver {
             }
         }
 
-        /** For more(): what is less than the start counts as ruled out. */
+        /** What is less than the start counts as ruled out. */
         private void learnBound(int start) {
             for (int p = 0; p < size; p++) {
-                if ((start >> p & 1) != 0) {
-                    int above = allBits() >> p + 1 << p + 1;
-                    int mask = above & ~start | 1 << p;
-                    if (checker.followsBound(mask, 0, start, size)) {
-                        nogoodMask[p] = mask;
-                        nogoodHeld[p] = 0;
-                    } else {
+                int bit = 1 << p;
+                if ((start & bit) != 0) {
+                    int above = allBits & ~(2 * bit - 1);
+                    nogoodMask[p] = bit | (above & ~start);
+                    nogoodHeld[p] = 0;
+                    if (!checker.followsBound(nogoodMask[p], 0, start, size)) {
                         refusedOnes++;
-                        nogoodMask[p] = above | 1 << p;
+                        nogoodMask[p] = bit | above;
                         nogoodHeld[p] = start & above;
                     }
                 }
@@ -2273,27 +2061,17 @@ public final class VectorSolver {
             return NONE;
         }
 
-        /** The mask of a nogood; that of all bits needs no look, as it says no more than was tried. */
-        private int learnWhy(int goal, int at) {
-            int mask = learner.explain(goal, size);
-            if (mask != allBits() && !checker.followsFalse(goal, mask, at & mask, size)) {
-                refusedOnes++;
-                return allBits();
-            }
-            return mask;
-        }
-
-        /** The least interpretation above one that no nogood rules out, or NONE. */
+        /** The least interpretation above one that the nogoods leave, or NONE. */
         private int nextAfter(int at, int mask) {
             int rest = mask;
             for (int p = 0; p < size; p++) {
                 int bit = 1 << p;
+                if ((rest & bit) != 0 && (at & bit) == 0) {
+                    nogoodMask[p] = rest;
+                    nogoodHeld[p] = at & rest;
+                    return (at | bit) & -bit;
+                }
                 if ((rest & bit) != 0) {
-                    if ((at & bit) == 0) {
-                        nogoodMask[p] = rest;
-                        nogoodHeld[p] = at & rest;
-                        return (at | bit) >> p << p;
-                    }
                     rest = join(p, at, rest);
                 }
             }
@@ -2307,7 +2085,7 @@ public final class VectorSolver {
                 return joined;
             }
             refusedOnes++;
-            return allBits() >> p + 1 << p + 1;
+            return allBits & ~(2 * bit - 1);
         }
     }
 }
