@@ -1,6 +1,7 @@
 /**
  * Decides what texts assert about bit vectors and arrays: whether there are values of the declared
- * things that make all assertions true, and which are the least.
+ * things that make all assertions true, and which are the least; what it learns on its way it has
+ * looked through by a checker of its own, and what it finds by an evaluator of its own.
  *
  * An interpretation is held as one number of SIZE bits, the things in their order from its highest
  * bit on, and the cells of an array likewise: then a lesser number is a lesser interpretation.
@@ -457,6 +458,8 @@ public final class VectorSolver {
         final long[] full = new long[MOST_TERMS];
         /** The least number among a term and all that it is made of, things aside. */
         final int[] lowest = new int[MOST_TERMS];
+        /** Whether it is a sum or product, or has the bits of one in their places. */
+        final boolean[] carries = new boolean[MOST_TERMS];
         int made;
         int weight;
 
@@ -469,6 +472,7 @@ public final class VectorSolver {
             bits[t] = itsBits;
             full[t] = Words.mask(Sorts.size(itsSort));
             lowest[t] = t;
+            carries[t] = itsOp == BVNEG || itsOp == BVADD || itsOp == BVMUL || itsOp == BVSUB;
             first[t + 1] = first[t];
             made = t + 1;
             return t;
@@ -483,6 +487,20 @@ public final class VectorSolver {
             }
             if (op[argument] != THING && lowest[argument] < lowest[t]) {
                 lowest[t] = lowest[argument];
+            }
+            if (carries[argument] && keepsPlaces(t)) {
+                carries[t] = true;
+            }
+        }
+
+        private boolean keepsPlaces(int t) {
+            switch (op[t]) {
+                case ITE: case BVNOT: case BVAND: case BVOR: case BVXOR: case ZERO_EXTEND: case SIGN_EXTEND:
+                    return true;
+                case EXTRACT:
+                    return low[t] == 0;
+                default:
+                    return false;
             }
         }
 
@@ -684,8 +702,8 @@ public final class VectorSolver {
         }
 
         private void keepPiece() {
-            long piece = begin | (long) end << END_SHIFT | (long) kind << KIND_SHIFT;
-            pieces[pieceCount] = piece | (long) (reserved + 1) << RESERVED_SHIFT;
+            long place = begin | ((long) end << END_SHIFT);
+            pieces[pieceCount] = place | ((long) kind << KIND_SHIFT) | ((long) (reserved + 1) << RESERVED_SHIFT);
             pieceCount++;
         }
 
@@ -694,7 +712,7 @@ public final class VectorSolver {
         }
 
         private static boolean isWordSign(int sign) {
-            if (isDigit(sign) || sign >= 'a' && sign <= 'z' || sign >= 'A' && sign <= 'Z') {
+            if (isDigit(sign) || (sign >= 'a' && sign <= 'z') || (sign >= 'A' && sign <= 'Z')) {
                 return true;
             }
             return sign > 0 && OTHER_SIGNS.indexOf((char) sign) >= 0;
@@ -768,7 +786,7 @@ public final class VectorSolver {
 
         /** Whether nothing but blanks is left. */
         boolean isOver() {
-            return nextPiece < pieceCount && (pieces[nextPiece] >> KIND_SHIFT & BYTE_BITS) == BAD + FAULT_END;
+            return ((int) (pieces[nextPiece] >> KIND_SHIFT) & BYTE_BITS) == BAD + FAULT_END;
         }
 
         void next() {
@@ -809,7 +827,7 @@ public final class VectorSolver {
             int shift = kind == BINARY ? 1 : 4;
             long sum = 0L;
             for (int i = begin + 2; i < end; i++) {
-                sum = sum << shift | digit(bytes[i]);
+                sum = (sum << shift) | digit(bytes[i]);
             }
             return sum;
         }
@@ -1549,14 +1567,9 @@ public final class VectorSolver {
         private void explainDifference(int a, int b) {
             long bits = worth[a] ^ worth[b];
             long upTo = Words.upToHighest(bits);
-            long one = hasCarries(a) || hasCarries(b) ? bits & -bits : upTo ^ (upTo >>> 1);
+            long one = terms.carries[a] || terms.carries[b] ? bits & -bits : upTo ^ (upTo >>> 1);
             ask(a, one);
             ask(b, one);
-        }
-
-        private boolean hasCarries(int t) {
-            int op = terms.op[t];
-            return op == BVNEG || op == BVADD || op == BVMUL || op == BVSUB;
         }
 
         private void explainShift(int t, int a, long bits) {
