@@ -99,6 +99,7 @@ public final class VectorSolver {
     private static final int CONCAT = 44;
     private static final int SELECT = 45;
     private static final int STORE = 46;
+    private static final int RESERVED_WORDS = 47;
     // Terms that are no applications.
     private static final int THING = 47;
     private static final int CONSTANT = 48;
@@ -634,11 +635,23 @@ public final class VectorSolver {
         private int pieceCount;
         private int nextPiece;
         private int open;
+        /** Where each of the reserved words begins in their row, and where that ends. */
+        private final int[] reservedFrom = new int[RESERVED_WORDS + 1];
         /** Of the word or bracket that was read last: what it is and where, and its reserved number. */
         int kind;
         int begin;
         int end;
         int reserved;
+
+        Text() {
+            int n = 0;
+            for (int i = 0; i < RESERVED.length() && n < RESERVED_WORDS; i++) {
+                if (RESERVED.charAt(i) == ' ') {
+                    n++;
+                    reservedFrom[n] = i + 1;
+                }
+            }
+        }
 
         /** Asked for only where there is room. */
         void append(int four) {
@@ -760,15 +773,10 @@ public final class VectorSolver {
         }
 
         private int findReserved() {
-            int number = 0;
-            int from = 0;
-            for (int i = 0; i < RESERVED.length(); i++) {
-                if (RESERVED.charAt(i) == ' ') {
-                    if (i - from == end - begin && isReserved(from)) {
-                        return number;
-                    }
-                    number++;
-                    from = i + 1;
+            for (int n = 0; n < RESERVED_WORDS; n++) {
+                int from = reservedFrom[n];
+                if (reservedFrom[n + 1] - from - 1 == end - begin && isReserved(from)) {
+                    return n;
                 }
             }
             return NONE;

@@ -74,6 +74,11 @@ final class LimitTest {
         due("(assert (not" + " true".repeat(40) + "))", MANY, 8);
         due("(assert (not" + " true".repeat(41) + "))", FULL, 8);
         due("(assert ((_ zero_extend 1)" + " true".repeat(41) + "))", FULL, 8);
+        String most = "(and" + " p".repeat(39) + " ";
+        VectorSolver solver = Bench.after("(declare-const p Bool)(assert " + most.repeat(59) + "p" + ")".repeat(60));
+        Bench.due("terms", solver.count(0), 60);
+        Bench.due("check()", solver.check(), true);
+        Bench.due("p", solver.value(0, 0), 1L);
     }
 
     /** 40 terms each, 50 times. */
