@@ -61,6 +61,7 @@ final class FaultTest {
             due(SIGN, "(assert p|" + sign + ")");
         }
         for (String word : new String[] {"00", "01", "5a", "0x1", "#", "#b", "#x", "#b2", "#b0_", "#xg", "#c1", "#B1", "#X1",
+            "#x?", "#x0@", "#x<", "#x=", "#x>", "#xG", "#x_", "#b/", "#x/", "#x1#", "0?", "1@",
             "#b" + "0".repeat(65), "#x" + "0".repeat(17), "1.5", "12345678901234567890a"}) {
             due(FORM, "|" + word);
             due(FORM, "(|" + word);

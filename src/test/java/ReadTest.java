@@ -31,6 +31,8 @@ final class ReadTest {
         dueRead("(assert\ttrue\r\n)", 1);
         dueRead("\n(\nassert;x\u0080\u0000)(\n true;\n;;\n);end", 1);
         dueRead("(declare-const ~!@$%^&*_-+=<>.?/ Bool)(assert ~!@$%^&*_-+=<>.?/)", 2);
+        String all = "azAZ09bcdefghijklmnopqrstuvwxyBCDEFGHIJKLMNOPQRSTUVWXY12345678";
+        dueRead("(declare-const " + all + " Bool)(assert " + all + ")", 2);
         dueRead("(declare-const a#b Bool)(declare-const A#b Bool)(assert (xor a#b A#b))", 3);
         dueRead("(declare-const trues Bool)(declare-const tru Bool)(declare-const __ Bool)", 3);
         dueRead("(assert(= #b" + "1".repeat(64) + " #x" + "f".repeat(16) + " #xFFFFFFFFFFFFFFFF))", 1);
