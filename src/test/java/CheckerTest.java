@@ -16,6 +16,7 @@ final class CheckerTest {
         Bench.due("that much is followed and much refused", followed > many && refused > many, true);
         bounds();
         joins();
+        misled();
         Bench.finish();
     }
 
@@ -120,5 +121,50 @@ final class CheckerTest {
             }
         }
         Bench.due("that some are followed", seen > 1000, true);
+    }
+
+    /**
+     * A learner that is shown wrong values learns what is not so: the checker follows none of that, refused()
+     * counts it over all searches, and what is found is right all the same.
+     */
+    private static void misled() throws ReflectiveOperationException {
+        int sum = 0;
+        for (int seed = 0; seed < 400; seed++) {
+            Problem problem = new Problem(seed, SIZE);
+            VectorSolver solver = new VectorSolver();
+            String text = problem.grow(8, 1 + seed % 4);
+            if (Bench.read(solver, text) < 0) {
+                continue;
+            }
+            Object learner = part(part(solver, "search"), "learner");
+            Field worth = learner.getClass().getDeclaredField("worth");
+            worth.setAccessible(true);
+            worth.set(learner, new long[2000]);
+            int before = 0;
+            long found = -1;
+            for (int turn = 0; turn < 4; turn++) {
+                found = problem.least(found + 1, null);
+                Bench.due("more() of a misled search in " + text, solver.more(), found >= 0);
+                if (found >= 0) {
+                    Bench.due("what it found in " + text, number(solver), found);
+                }
+                Bench.due("missed()", solver.missed(), 0);
+                Bench.due("that refused() only grows", solver.refused() >= before, true);
+                before = solver.refused();
+            }
+            sum += before;
+        }
+        Bench.due("that much was refused", sum > 400, true);
+    }
+
+    /** What was found as one number, the things in their order from its highest bit on. */
+    private static long number(VectorSolver solver) {
+        long all = 0;
+        for (int thing = 0; thing < solver.count(4); thing++) {
+            for (int cell = 0; cell < 1 << solver.thing(thing, 2); cell++) {
+                all = all << Math.max(1, solver.thing(thing, 1)) | solver.value(thing, cell);
+            }
+        }
+        return all;
     }
 }

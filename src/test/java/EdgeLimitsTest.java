@@ -11,6 +11,7 @@ final class EdgeLimitsTest {
         namesFullBehindTaken();
         nameBytes();
         assertions();
+        assertionsOfTheSameTerms();
         assertionsFullBehindTheirSort();
         boundSymbols();
         boundSymbolsOfSeveralLets();
@@ -165,6 +166,17 @@ final class EdgeLimitsTest {
         Bench.due("assertions", one.count(2), 499);
         Edge.good(one, 1, "(assert (not p))");
         Bench.due("check(), with the last one", one.check(), false);
+    }
+
+    /** 500 that are all made of the same terms, many of them. */
+    private static void assertionsOfTheSameTerms() {
+        VectorSolver solver = Edge.of("(declare-const p Bool)(define-fun q () Bool " + "(not ".repeat(50) + "p" + ")".repeat(50) + ")"
+            + "(define-fun r () Bool " + "(not ".repeat(50) + "q" + ")".repeat(50) + ")" + "(assert r)(assert q)".repeat(250));
+        Bench.due("assertions", solver.count(2), 500);
+        Bench.due("check()", solver.check(), true);
+        Bench.due("what was found", Edge.found(solver), "1");
+        Bench.due("suppose(2)", solver.suppose(2), true);
+        Bench.due("more()", solver.more(), false);
     }
 
     /** When the term was read. */
