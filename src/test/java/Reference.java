@@ -5,8 +5,8 @@ import java.util.Map;
 import java.util.Set;
 
 /**
- * A second reader of texts, written from the document alone and by plain means: it looks at a byte when
- * that is wanted, and tells what the solver must answer of faults, counts and things.
+ * A second reader of texts, by plain means: it looks at a byte when that is wanted, and tells what the solver
+ * must answer of faults, counts and things. It takes the document's unclear sentences as the solver does.
  */
 final class Reference {
     private static final Set<String> RESERVED = Set.of(("declare-const define-fun assert Bool _ BitVec Array true false let extract "
