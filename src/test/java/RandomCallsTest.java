@@ -315,7 +315,7 @@ final class RandomCallsTest {
         text.append("let (");
         int many = chance(30) ? 17 : 1 + random.nextInt(3);
         for (int i = 0; i < many; i++) {
-            String symbol = chance(3) && before > 0 ? known.get(random.nextInt(before)) : "l" + random.nextInt(40);
+            String symbol = chance(3) && before > 0 ? known.get(random.nextInt(before)) : "l" + random.nextInt(many > 3 ? 40 : 4);
             Model.Sort own = random.nextBoolean() || sort().isArray() ? Model.Sort.BOOL : new Model.Sort(0, 1 + random.nextInt(4));
             if (!bound.contains(symbol) || chance(60)) {
                 text.append('(').append(symbol).append(' ');
